@@ -1,10 +1,10 @@
 import java.util.Random;
 
-/** Promises 1 to 22, for 7 THINGS at most: long runs of drawn calls, right and wrong ones, against PlainBoxes. */
+/** Promises 1 to 22: long runs of drawn calls, right and wrong ones, against PlainBoxes. */
 public final class ModelTest {
     private static final int RUNS = 600;
-    /** The document promises 512 calls on an object; a step of a run makes 20 at most. */
-    private static final int MOST_CALLS = 490;
+    /** The document promises 512 calls on an object; a step of a run makes 31 at most. */
+    private static final int MOST_CALLS = 512 - 31;
     private static final int[] EXTREMES = {Integer.MIN_VALUE, Integer.MAX_VALUE, -1000, 18, 19, 100};
 
     private final Random random;
@@ -31,12 +31,13 @@ public final class ModelTest {
         return low + random.nextInt(high - low + 1);
     }
 
-    private long aboutRow() {
+    private long aboutRow(int n) {
         int chance = random.nextInt(12);
         if (chance == 0) return -1;
         if (chance == 1) return Long.MAX_VALUE;
         if (chance == 2) return Long.MIN_VALUE;
         if (chance == 3) return random.nextInt(6000);
+        if (chance < 8) return (long) (random.nextDouble() * random.nextDouble() * Counts.factorial(n));
         return random.nextInt(1 + random.nextInt(200));
     }
 
@@ -89,7 +90,8 @@ public final class ModelTest {
         long[] told = Orders.figures(a);
         int chance = random.nextInt(12);
         if (chance == 0) told[1] = 1 + random.nextInt(400);
-        if (chance == 1) told[0] += (long) Math.pow(18, n);
+        if (chance == 1) told[0] += (long) Math.pow(18, Math.min(n, 9));
+        if (chance == 4 && n > 9) told[1] += (long) Math.pow(18, n - 9);
         if (chance == 2) told[0] = -told[0] - 1;
         if (chance == 3) told[1] = -1 - random.nextInt(400);
         Check.due(where + "order(" + told[0] + ", " + told[1] + ")",
@@ -98,10 +100,10 @@ public final class ModelTest {
 
     private void callHowMany(String where, int kind, int n) {
         int k = about(0, 7);
-        int v = about(0, n + 3);
+        int v = random.nextInt(5) == 0 ? random.nextInt(250) : about(0, n + 3);
         int part = about(0, 1);
         int rowKind = random.nextInt(10) == 0 ? about(-2, 7) : random.nextInt(3) == 0 ? -1 : 1 + random.nextInt(2);
-        long ahead = aboutRow();
+        long ahead = aboutRow(n);
         switch (kind) {
             case 8: Check.due(where + "many(" + k + ", " + v + ")", boxes.many(k, v), plain.many(k, v)); break;
             case 9: Check.due(where + "mean(" + k + ", " + part + ")", boxes.mean(k, part), plain.mean(k, part)); break;
@@ -139,7 +141,7 @@ public final class ModelTest {
             case 21: Check.due(where + "count(" + what + ")", boxes.count(what), plain.count(what)); break;
             default:
                 if (random.nextInt(4) == 0) {
-                    int things = random.nextInt(6) == 0 ? EXTREMES[random.nextInt(3)] : random.nextInt(8);
+                    int things = random.nextBoolean() ? about(1, 7) : about(1, 18);
                     Check.due(where + "things(" + things + ")", boxes.things(things), plain.things(things));
                 }
         }

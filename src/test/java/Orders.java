@@ -1,5 +1,7 @@
 import java.util.ArrayList;
 import java.util.Arrays;
+import java.util.Collections;
+import java.util.Comparator;
 import java.util.List;
 import java.util.Random;
 import java.util.TreeSet;
@@ -153,7 +155,16 @@ final class Orders {
         return made;
     }
 
+    /** ROUNDS told from their greatest THINGS, by these; for few THINGS looked for among all ORDERS instead. */
     static int[] madeRecords(int[] a) {
-        return all(a.length).stream().filter(b -> Arrays.equals(madeRounds(b), a)).findFirst().get();
+        if (a.length <= MOST_LISTED) {
+            return all(a.length).stream().filter(b -> Arrays.equals(madeRounds(b), a)).findFirst().get();
+        }
+        List<List<Integer>> rounds = rounds(a);
+        for (List<Integer> round : rounds) {
+            Collections.rotate(round, -round.indexOf(Collections.max(round)));
+        }
+        rounds.sort(Comparator.comparing(round -> round.get(0)));
+        return rounds.stream().flatMap(List::stream).mapToInt(Integer::intValue).toArray();
     }
 }

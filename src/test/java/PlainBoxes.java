@@ -1,7 +1,8 @@
 import java.util.ArrayList;
+import java.util.Arrays;
 import java.util.List;
 
-/** The whole document in its plainest form, for 7 THINGS at most: what HundredBoxes is held against. */
+/** The whole document in its plainest form: what HundredBoxes is held against. Up to 7 THINGS every ORDER is looked at. */
 final class PlainBoxes {
     private static final int BAD = -2;
     private int n;
@@ -28,20 +29,26 @@ final class PlainBoxes {
     }
 
     int things(int things) {
-        if (things < 1 || things > Orders.MOST_LISTED) return BAD;
+        if (things < 1 || things > 18) return BAD;
         begin(things);
         return 1;
     }
 
+    private boolean isListed() {
+        return n <= Orders.MOST_LISTED;
+    }
+
     int order(long told, long more) {
-        for (int[] b : Orders.all(n)) {
-            long[] figures = Orders.figures(b);
-            if (figures[0] == told && figures[1] == more) {
-                a = b.clone();
-                return 1;
-            }
+        int[] b = new int[n];
+        long[] left = {told, more};
+        for (int i = 0; i < n; i++) {
+            b[i] = (int) (left[i / 9] % 18);
+            left[i / 9] /= 18;
         }
-        return BAD;
+        boolean isOrder = left[0] == 0 && left[1] == 0 && Arrays.equals(Arrays.stream(b).sorted().toArray(), Orders.atRest(n));
+        if (!isOrder) return BAD;
+        a = b;
+        return 1;
     }
 
     int at(int i) {
@@ -89,32 +96,28 @@ final class PlainBoxes {
     }
 
     long many(int k, int v) {
-        return k < 0 || k > 7 ? BAD : Orders.many(n, k, v);
+        if (k < 0 || k > 7) return BAD;
+        return isListed() ? Orders.many(n, k, v) : Counts.many(n, k, v);
     }
 
     long mean(int k, int part) {
         if (k < 0 || k > 7 || part < 0 || part > 1) return BAD;
-        long above = Orders.sum(n, k);
-        long below = Orders.all(n).size();
-        for (long d = below; d > 1; d--) {
-            if (above % d == 0 && below % d == 0) {
-                above /= d;
-                below /= d;
-            }
-        }
-        return part == 0 ? above : below;
+        long above = isListed() ? Orders.sum(n, k) : Counts.sum(n, k);
+        long below = Counts.factorial(n);
+        return (part == 0 ? above : below) / Counts.divisor(above, below);
     }
 
     int row(int kind, int v, long k) {
         if (kind != -1 && kind != 1 && kind != 2 || k < 0) return BAD;
-        int[] b = Orders.row(n, kind, v, k);
+        int[] b = isListed() ? Orders.row(n, kind, v, k) : Counts.row(n, kind, v, k);
         if (b == null) return -1;
         a = b.clone();
         return 1;
     }
 
     long place(int kind) {
-        return kind != -1 && kind != 1 && kind != 2 ? BAD : Orders.place(a, kind);
+        if (kind != -1 && kind != 1 && kind != 2) return BAD;
+        return isListed() ? Orders.place(a, kind) : Counts.place(a, kind);
     }
 
     int toRounds() {
@@ -168,6 +171,7 @@ final class PlainBoxes {
 
     long allWin(int way) {
         if (way < 0 || way > 1) return BAD;
+        if (!isListed()) return way == 1 ? -3 : Counts.withRoundsUpTo(n, m);
         long won = 0;
         for (int[] b : Orders.all(n)) {
             boolean all = true;
