@@ -19,12 +19,15 @@ public final class HowManyEdgesTest {
         allButOneAtRest();
         manyOfOneThing();
         manyLooksAtNoOrder();
+        manyAfterOtherThings();
+        meanAfterOtherThings();
         firstAndLastPart();
         meanOfNought();
         meanThatIsWhole();
         everyMean();
         greatestSums();
         firstKindAndLastKindOfRow();
+        rowsByTheFirstThenTheSecond();
         vIsNotLookedAt();
         firstRow();
         lastRow();
@@ -134,6 +137,32 @@ public final class HowManyEdgesTest {
         Check.due("promise 11: THE ORDER stays", x.place(-1), 555);
     }
 
+    /** One object through every number of THINGS and kind: no answer may come from another of them. */
+    private static void manyAfterOtherThings() {
+        HundredBoxes x = new HundredBoxes();
+        for (int step = 0; step < 36; step++) {
+            int n = step < 18 ? 18 - step : step - 17;
+            x.things(n);
+            for (int k = 0; k < 8; k++) {
+                int v = (n + 1) / 2;
+                Check.due("promise 11: many(" + k + ", " + v + ") of " + n + " among others", x.many(k, v), Counts.many(n, k, v));
+            }
+        }
+    }
+
+    private static void meanAfterOtherThings() {
+        HundredBoxes x = new HundredBoxes();
+        for (int step = 0; step < 36; step++) {
+            int n = step < 18 ? step + 1 : 36 - step;
+            x.things(n);
+            for (int k = 0; k < 8; k++) {
+                long above = Counts.sum(n, k);
+                long common = Counts.divisor(above, Counts.factorial(n));
+                Check.due("promise 12: mean(" + k + ", 0) of " + n + " among others", x.mean(k, 0), above / common);
+            }
+        }
+    }
+
     private static void firstAndLastPart() {
         HundredBoxes x = new HundredBoxes();
         Check.due("promise 12: mean(0, 0)", x.mean(0, 0), 25);
@@ -200,6 +229,25 @@ public final class HowManyEdgesTest {
             Check.due("promise 13: row(" + kind + ", 1, 0)", of(5).row(kind, 1, 0), 1);
             Check.due("promise 14: place(" + kind + ")", of(5).place(kind), 0);
         }
+    }
+
+    private static void rowsByTheFirstThenTheSecond() {
+        int[][] all = {{0, 1, 2}, {0, 2, 1}, {1, 0, 2}, {1, 2, 0}, {2, 0, 1}, {2, 1, 0}};
+        int[][] records = {{0, 2, 1}, {1, 0, 2}, {1, 2, 0}};
+        int[][] rises = {{0, 2, 1}, {1, 0, 2}, {1, 2, 0}, {2, 0, 1}};
+        rowsAre(-1, 0, all);
+        rowsAre(1, 2, records);
+        rowsAre(2, 1, rises);
+    }
+
+    private static void rowsAre(int kind, int v, int[][] rows) {
+        HundredBoxes x = of(3);
+        for (int k = 0; k < rows.length; k++) {
+            Check.due("promise 13: row(" + kind + ", " + v + ", " + k + ")", x.row(kind, v, k), 1);
+            Check.row("promise 13: row(" + kind + ", " + v + ", " + k + ")", x, rows[k]);
+            Check.due("promise 14: place(" + kind + ")", x.place(kind), k);
+        }
+        Check.due("promise 13: row(" + kind + ", " + v + ", " + rows.length + ")", x.row(kind, v, rows.length), NONE);
     }
 
     private static void vIsNotLookedAt() {

@@ -48,6 +48,7 @@ public final class OrderEdgesTest {
         theLastIsNoRise();
         turnsAreOneOrMore();
         mostTurns();
+        twoObjectsShareNothing();
         the512thCall();
         Check.end("OrderEdgesTest");
     }
@@ -547,6 +548,23 @@ public final class OrderEdgesTest {
         Check.due("promise 10: TURNS of ROUNDS of 1, 2, 3, 5, 7", x.number(7), 210);
         tell(x, 1, 2, 3, 4, 5, 0, 7, 8, 9, 10, 11, 6, 13, 14, 15, 12, 17, 16);
         Check.due("promise 10: TURNS of ROUNDS of 6, 6, 4, 2", x.number(7), 12);
+    }
+
+    private static void twoObjectsShareNothing() {
+        HundredBoxes x = of(5);
+        HundredBoxes y = new HundredBoxes();
+        tell(x, 4, 3, 2, 1, 0);
+        for (int place = 0; place < 4; place++) x.lay(place);
+        x.opens(5);
+        x.list(0, 0);
+        Check.row("promise 1: another object", y, 0, 1, 2, 3);
+        Check.due("promise 1: another object, m", y.count(1), 2);
+        Check.due("promise 1: another object, lists", y.count(2), 0);
+        for (int place = 0; place < 4; place++) {
+            y.take(place);
+            Check.row("promise 1: another object, place " + place, y, 0, 1, 2, 3);
+        }
+        Check.row("promise 1: the first object", x, 4, 3, 2, 1, 0);
     }
 
     /** 512 calls are promised; the dearest ones are made to and fro, and the last one still answers. */
