@@ -48,14 +48,8 @@ public final class BoxesEdgesTest {
         Check.end("BoxesEdgesTest");
     }
 
-    private static HundredBoxes of(int n) {
-        HundredBoxes x = new HundredBoxes();
-        x.things(n);
-        return x;
-    }
-
     private static HundredBoxes withFullLists(int n) {
-        HundredBoxes x = of(n);
+        HundredBoxes x = Make.of(n);
         for (int player = 0; player < n; player++) {
             for (int i = 0; i < n; i++) x.list(player, (player + i) % n);
         }
@@ -64,7 +58,7 @@ public final class BoxesEdgesTest {
 
     private static void opensOneAtLeast() {
         for (int n = 1; n <= 18; n++) {
-            HundredBoxes x = of(n);
+            HundredBoxes x = Make.of(n);
             int first = n == 1 ? 1 : 2;
             Check.due("promise 17: opens(0) of " + n, x.opens(0), BAD);
             Check.due("promise 17: opens(-1) of " + n, x.opens(-1), BAD);
@@ -76,7 +70,7 @@ public final class BoxesEdgesTest {
 
     private static void opensAllAtMost() {
         for (int n = 1; n <= 18; n++) {
-            HundredBoxes x = of(n);
+            HundredBoxes x = Make.of(n);
             int first = n == 1 ? 1 : 2;
             Check.due("promise 17: opens(" + (n + 1) + ") of " + n, x.opens(n + 1), BAD);
             Check.due("promise 17: opens(" + (n + 1) + "), m stays", x.count(1), first);
@@ -86,20 +80,20 @@ public final class BoxesEdgesTest {
     }
 
     private static void opensTellsWhatItWas() {
-        HundredBoxes x = of(18);
+        HundredBoxes x = Make.of(18);
         Check.due("promise 17: 2 at first", x.opens(18), 2);
         Check.due("promise 17: then 18", x.opens(1), 18);
         Check.due("promise 17: then 1", x.opens(1), 1);
         Check.due("promise 17: the same again", x.opens(2), 1);
         x.opens(19);
         Check.due("promise 17: not the one refused", x.opens(5), 2);
-        HundredBoxes one = of(1);
+        HundredBoxes one = Make.of(1);
         Check.due("promise 17: 1 at first with one THING", one.opens(1), 1);
     }
 
     private static void firstAndLastPlayer() {
         for (int n = 1; n <= 18; n++) {
-            HundredBoxes x = of(n);
+            HundredBoxes x = Make.of(n);
             for (int wrong : new int[] {-1, n}) {
                 Check.due("promise 18: list(" + wrong + ", 0) of " + n, x.list(wrong, 0), BAD);
                 Check.due("promise 19: forget(" + wrong + ") of " + n, x.forget(wrong), BAD);
@@ -118,7 +112,7 @@ public final class BoxesEdgesTest {
 
     private static void firstAndLastBox() {
         for (int n = 2; n <= 18; n++) {
-            HundredBoxes x = of(n);
+            HundredBoxes x = Make.of(n);
             Check.due("promise 18: list(1, -1)", x.list(1, -1), BAD);
             Check.due("promise 18: list(1, " + n + ") of " + n, x.list(1, n), BAD);
             Check.due("promise 18: nothing listed", x.count(2), 0);
@@ -128,7 +122,7 @@ public final class BoxesEdgesTest {
     }
 
     private static void boxTwice() {
-        HundredBoxes x = of(6);
+        HundredBoxes x = Make.of(6);
         for (int box = 5; box >= 1; box--) {
             Check.due("promise 18: list(2, " + box + ")", x.list(2, box), 6 - box);
             for (int before = 5; before >= box; before--) {
@@ -139,7 +133,7 @@ public final class BoxesEdgesTest {
     }
 
     private static void boxInTheListsOfTwo() {
-        HundredBoxes x = of(3);
+        HundredBoxes x = Make.of(3);
         for (int player = 0; player < 3; player++) {
             Check.due("promise 18: list(" + player + ", 1)", x.list(player, 1), 1);
         }
@@ -148,7 +142,7 @@ public final class BoxesEdgesTest {
 
     private static void fullList() {
         for (int n = 1; n <= 18; n++) {
-            HundredBoxes x = of(n);
+            HundredBoxes x = Make.of(n);
             for (int box = 0; box < n; box++) Check.due("promise 18: list(0, " + box + ")", x.list(0, box), box + 1);
             for (int box = 0; box < n; box++) Check.due("promise 18: a full list of " + n, x.list(0, box), TWICE);
             Check.due("promise 18: a full list, no such BOX", x.list(0, n), BAD);
@@ -157,7 +151,7 @@ public final class BoxesEdgesTest {
     }
 
     private static void boxOnceMoreAfterForget() {
-        HundredBoxes x = of(4);
+        HundredBoxes x = Make.of(4);
         x.list(3, 2);
         x.list(3, 1);
         x.forget(3);
@@ -167,7 +161,7 @@ public final class BoxesEdgesTest {
     }
 
     private static void forgetOfAnEmptyList() {
-        HundredBoxes x = of(18);
+        HundredBoxes x = Make.of(18);
         for (int player = 0; player < 18; player++) Check.due("promise 19: forget(" + player + ")", x.forget(player), 0);
         x.list(4, 4);
         Check.due("promise 19: forget(4)", x.forget(4), 1);
@@ -195,7 +189,7 @@ public final class BoxesEdgesTest {
     /** In a ROUND of so many THINGS the last BOX opened has the own THING. */
     private static void winsAtTheLastBox() {
         for (int n = 2; n <= 18; n++) {
-            HundredBoxes x = of(n);
+            HundredBoxes x = Make.of(n);
             x.row(1, 1, 0);
             x.toRounds();
             Check.due("promise 20: one ROUND of " + n, x.number(4), n);
@@ -210,7 +204,7 @@ public final class BoxesEdgesTest {
 
     private static void winsAtRestWithOne() {
         for (int n = 1; n <= 18; n++) {
-            HundredBoxes x = of(n);
+            HundredBoxes x = Make.of(n);
             x.opens(1);
             for (int player = 0; player < n; player++) {
                 Check.due("promise 20: wins(0, " + player + ") at rest", x.wins(0, player), 1);
@@ -232,7 +226,7 @@ public final class BoxesEdgesTest {
 
     private static void firstAndLastWay() {
         for (int n : new int[] {1, 4, 18}) {
-            HundredBoxes x = of(n);
+            HundredBoxes x = Make.of(n);
             for (int wrong : new int[] {-1, 2, Integer.MIN_VALUE, Integer.MAX_VALUE}) {
                 Check.due("promise 20: wins(" + wrong + ", 0) of " + n, x.wins(wrong, 0), BAD);
                 Check.due("promise 20: wins(" + wrong + ", -1) of " + n, x.wins(wrong, -1), BAD);
@@ -245,7 +239,7 @@ public final class BoxesEdgesTest {
 
     private static void winsWithAnEmptyList() {
         for (int n = 1; n <= 18; n++) {
-            HundredBoxes x = of(n);
+            HundredBoxes x = Make.of(n);
             x.opens(n);
             for (int player = 0; player < n; player++) {
                 Check.due("promise 20: wins(1, " + player + "), empty", x.wins(1, player), 0);
@@ -269,7 +263,7 @@ public final class BoxesEdgesTest {
 
     private static void winsWithTheFirstBoxesOnly() {
         for (int n = 2; n <= 18; n++) {
-            HundredBoxes x = of(n);
+            HundredBoxes x = Make.of(n);
             for (int i = 0; i < n; i++) x.list(0, n - 1 - i);
             x.opens(n - 1);
             Check.due("promise 20: BOX 0 is the last of " + n, x.wins(1, 0), 0);
@@ -295,7 +289,7 @@ public final class BoxesEdgesTest {
 
     private static void winsOfMoreThanSeven() {
         for (int n = 7; n <= 18; n++) {
-            HundredBoxes x = of(n);
+            HundredBoxes x = Make.of(n);
             x.list(n - 1, 0);
             Check.due("promise 20: wins(1, " + (n - 1) + ") of " + n, x.wins(1, n - 1), 0);
             x.swap(0, n - 1);
@@ -315,7 +309,7 @@ public final class BoxesEdgesTest {
 
     private static void allWinWithOne() {
         for (int n = 1; n <= 18; n++) {
-            HundredBoxes x = of(n);
+            HundredBoxes x = Make.of(n);
             x.opens(1);
             Check.due("promise 21: allWin(0) of " + n + " with 1", x.allWin(0), 1);
         }
@@ -323,7 +317,7 @@ public final class BoxesEdgesTest {
 
     private static void allWinWithAll() {
         for (int n = 1; n <= 18; n++) {
-            HundredBoxes x = of(n);
+            HundredBoxes x = Make.of(n);
             x.opens(n);
             Check.due("promise 21: allWin(0) of " + n + " with all", x.allWin(0), Counts.factorial(n));
         }
@@ -331,7 +325,7 @@ public final class BoxesEdgesTest {
 
     private static void allWinWithAllButOne() {
         for (int n = 2; n <= 18; n++) {
-            HundredBoxes x = of(n);
+            HundredBoxes x = Make.of(n);
             x.opens(n - 1);
             long want = Counts.factorial(n) - Counts.factorial(n - 1);
             Check.due("promise 21: allWin(0) of " + n + " with all but one", x.allWin(0), want);
@@ -340,7 +334,7 @@ public final class BoxesEdgesTest {
 
     private static void allWinByRoundsOfEach() {
         for (int n = 1; n <= 18; n++) {
-            HundredBoxes x = of(n);
+            HundredBoxes x = Make.of(n);
             for (int m = 1; m <= n; m++) {
                 x.opens(m);
                 Check.due("promise 21: allWin(0) of " + n + " with " + m, x.allWin(0), Counts.withRoundsUpTo(n, m));
@@ -350,7 +344,7 @@ public final class BoxesEdgesTest {
 
     private static void allWinByListsOfSevenAndEight() {
         for (int n = 1; n <= 18; n++) {
-            HundredBoxes x = of(n);
+            HundredBoxes x = Make.of(n);
             for (int player = 0; player < n; player++) x.list(player, player);
             Check.due("promise 21: allWin(1) of " + n, x.allWin(1), n <= 7 ? 1 : NOT);
             Check.due("promise 21: allWin(2) of " + n, x.allWin(2), BAD);
@@ -360,7 +354,7 @@ public final class BoxesEdgesTest {
 
     private static void allWinWithEmptyLists() {
         for (int n = 1; n <= 7; n++) {
-            HundredBoxes x = of(n);
+            HundredBoxes x = Make.of(n);
             x.opens(n);
             Check.due("promise 21: allWin(1) of " + n + ", empty", x.allWin(1), 0);
         }
@@ -388,7 +382,7 @@ public final class BoxesEdgesTest {
     /** Two who open the same BOX alone can't both win. */
     private static void allWinWithTheSameBox() {
         for (int n = 2; n <= 7; n++) {
-            HundredBoxes x = of(n);
+            HundredBoxes x = Make.of(n);
             for (int player = 0; player < n; player++) x.list(player, Math.min(player, n - 2));
             Check.due("promise 21: allWin(1) of " + n + ", the same BOX", x.allWin(1), 0);
             x.list(n - 1, n - 1);
@@ -430,7 +424,7 @@ public final class BoxesEdgesTest {
     }
 
     private static void allWinOfOneThing() {
-        HundredBoxes x = of(1);
+        HundredBoxes x = Make.of(1);
         Check.due("promise 21: allWin(0) of 1", x.allWin(0), 1);
         Check.due("promise 21: allWin(1) of 1, empty", x.allWin(1), 0);
         x.list(0, 0);
@@ -438,13 +432,13 @@ public final class BoxesEdgesTest {
     }
 
     private static void firstAndLastCount() {
-        HundredBoxes x = of(9);
+        HundredBoxes x = Make.of(9);
         Check.due("promise 22: count(-1)", x.count(-1), BAD);
         Check.due("promise 22: count(0)", x.count(0), 9);
         Check.due("promise 22: count(1)", x.count(1), 2);
         Check.due("promise 22: count(2)", x.count(2), 0);
         Check.due("promise 22: count(3)", x.count(3), BAD);
-        Check.due("promise 22: count of one THING", of(1).count(1), 1);
+        Check.due("promise 22: count of one THING", Make.of(1).count(1), 1);
     }
 
     private static void countOfBoxes() {

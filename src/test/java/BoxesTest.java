@@ -20,14 +20,8 @@ public final class BoxesTest {
         Check.end("BoxesTest");
     }
 
-    private static HundredBoxes of(int n) {
-        HundredBoxes x = new HundredBoxes();
-        x.things(n);
-        return x;
-    }
-
     private static void opens() {
-        HundredBoxes x = of(18);
+        HundredBoxes x = Make.of(18);
         Check.due("promise 17: opens(18)", x.opens(18), 2);
         Check.due("promise 17: opens(1)", x.opens(1), 18);
         Check.due("promise 17: opens(1) again", x.opens(1), 1);
@@ -36,13 +30,13 @@ public final class BoxesTest {
             Check.due("promise 17: opens(" + m + ")", x.opens(m), HundredBoxes.BAD);
             Check.due("promise 17: refused", x.count(1), 7);
         }
-        HundredBoxes one = of(1);
+        HundredBoxes one = Make.of(1);
         Check.due("promise 17: opens(2) of 1", one.opens(2), HundredBoxes.BAD);
         Check.due("promise 17: opens(1) of 1", one.opens(1), 1);
     }
 
     private static void list() {
-        HundredBoxes x = of(5);
+        HundredBoxes x = Make.of(5);
         Check.due("promise 18: list(2, 4)", x.list(2, 4), 1);
         Check.due("promise 18: list(2, 0)", x.list(2, 0), 2);
         Check.due("promise 18: list(3, 4)", x.list(3, 4), 1);
@@ -57,7 +51,7 @@ public final class BoxesTest {
     }
 
     private static void fullLists() {
-        HundredBoxes x = of(18);
+        HundredBoxes x = Make.of(18);
         for (int player = 0; player < 18; player++) {
             for (int i = 0; i < 18; i++) {
                 Check.due("promise 18: a list grows", x.list(player, (player + 5 * i) % 18), i + 1);
@@ -68,7 +62,7 @@ public final class BoxesTest {
     }
 
     private static void forget() {
-        HundredBoxes x = of(5);
+        HundredBoxes x = Make.of(5);
         x.list(2, 4);
         x.list(2, 0);
         x.list(3, 4);
@@ -111,7 +105,7 @@ public final class BoxesTest {
     }
 
     private static void winsRefused() {
-        HundredBoxes x = of(18);
+        HundredBoxes x = Make.of(18);
         Check.due("promise 20: wins(2, 0)", x.wins(2, 0), HundredBoxes.BAD);
         for (int wrong : FAR) {
             Check.due("promise 20: wins(" + wrong + ", 0)", x.wins(wrong, 0), HundredBoxes.BAD);
@@ -126,7 +120,7 @@ public final class BoxesTest {
     /** All win with just those ORDERS that have no longer ROUND than m. */
     private static void allWinByRounds() {
         for (int n = 1; n <= 18; n++) {
-            HundredBoxes x = of(n);
+            HundredBoxes x = Make.of(n);
             x.swap(0, n - 1);
             long sum = 0;
             for (int m = 1; m <= n; m++) {
@@ -136,14 +130,14 @@ public final class BoxesTest {
             }
             Check.due("promise 21: the order stays", x.at(0), n - 1);
         }
-        HundredBoxes x = of(18);
+        HundredBoxes x = Make.of(18);
         x.opens(17);
         Check.due("promise 21: all but the ORDERS of one ROUND", x.allWin(0), 6402373705728000L - 355687428096000L);
     }
 
     private static void allWinByLists() {
         for (int n = 1; n <= 7; n++) {
-            HundredBoxes x = of(n);
+            HundredBoxes x = Make.of(n);
             Check.due("promise 21: empty lists of " + n, x.allWin(1), 0);
             for (int player = 0; player < n; player++) {
                 for (int i = 0; i < n; i++) x.list(player, (player + i) % n);
@@ -160,7 +154,7 @@ public final class BoxesTest {
 
     private static void allWinRefused() {
         for (int n = 1; n <= 18; n++) {
-            HundredBoxes x = of(n);
+            HundredBoxes x = Make.of(n);
             Check.due("promise 21: allWin(1) of " + n, x.allWin(1), n > 7 ? HundredBoxes.NOT : 0);
             for (int way : new int[] {-1, 2, Integer.MIN_VALUE, Integer.MAX_VALUE}) {
                 Check.due("promise 21: allWin(" + way + ") of " + n, x.allWin(way), HundredBoxes.BAD);
@@ -169,7 +163,7 @@ public final class BoxesTest {
     }
 
     private static void count() {
-        HundredBoxes x = of(9);
+        HundredBoxes x = Make.of(9);
         x.opens(6);
         x.list(8, 8);
         x.list(0, 3);

@@ -33,7 +33,10 @@ public final class FaceTest {
         methods(face);
         fields(face);
         nested(face);
-        words(Files.readString(Path.of(args[0])));
+        String source = Files.readString(Path.of(args[0]));
+        words(source);
+        texts(source);
+        lengths(source);
         Check.end("FaceTest");
     }
 
@@ -93,6 +96,17 @@ public final class FaceTest {
             Check.due(one + " is static", Modifier.isStatic(one.getModifiers()) ? 1 : 0, 1);
             Check.due(one + " is not shown", one.getModifiers() & (Modifier.PUBLIC | Modifier.PROTECTED), 0);
             Check.due(one + " has few fields", one.getDeclaredFields().length <= 20 ? 1 : 0, 1);
+            parameters(one);
+        }
+        parameters(face);
+    }
+
+    private static void parameters(Class<?> one) {
+        for (Method method : one.getDeclaredMethods()) {
+            Check.due(method + " takes seven at most", method.getParameterCount() <= 7 ? 1 : 0, 1);
+        }
+        for (Constructor<?> made : one.getDeclaredConstructors()) {
+            Check.due(made + " takes seven at most", made.getParameterCount() <= 7 ? 1 : 0, 1);
         }
     }
 
@@ -103,5 +117,22 @@ public final class FaceTest {
             Matcher matcher = Pattern.compile(plain ? "\\b" + word + "\\b" : word).matcher(code);
             Check.due("'" + word + "' is in the file", matcher.find() ? 1 : 0, 0);
         }
+    }
+
+    private static void texts(String source) {
+        Check.due("characters 0 to 255 alone", source.chars().allMatch(c -> c <= 255) ? 1 : 0, 1);
+    }
+
+    /** A method's head and its end stand alike far in: only their bodies stand further in. */
+    private static void lengths(String source) {
+        Pattern method = Pattern.compile("(?m)^( +)[\\w\\[\\] ]+\\([^;]*\\) \\{\\R(?:\\1 .*\\R|\\R)*\\1\\}");
+        Matcher matcher = method.matcher(source);
+        int found = 0;
+        while (matcher.find()) {
+            found++;
+            String text = matcher.group();
+            Check.due("sixty lines at most: " + text.lines().findFirst().get(), text.lines().count() <= 60 ? 1 : 0, 1);
+        }
+        Check.due("more methods were found than the face has", found > METHODS.size() ? 1 : 0, 1);
     }
 }

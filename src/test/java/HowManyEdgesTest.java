@@ -50,18 +50,6 @@ public final class HowManyEdgesTest {
         Check.end("HowManyEdgesTest");
     }
 
-    private static HundredBoxes of(int n) {
-        HundredBoxes x = new HundredBoxes();
-        x.things(n);
-        return x;
-    }
-
-    private static int[] turnedAbout(int n) {
-        int[] a = new int[n];
-        for (int i = 0; i < n; i++) a[i] = n - 1 - i;
-        return a;
-    }
-
     private static void firstAndLastKind() {
         HundredBoxes x = new HundredBoxes();
         Check.due("promise 11: many(0, 4)", x.many(0, 4), 1);
@@ -75,7 +63,7 @@ public final class HowManyEdgesTest {
     private static void anyV() {
         int[] far = {Integer.MIN_VALUE, Integer.MIN_VALUE + 1, -65536, -1, 211, 256, 65536, 1 << 30, Integer.MAX_VALUE};
         for (int n : new int[] {1, 4, 18}) {
-            HundredBoxes x = of(n);
+            HundredBoxes x = Make.of(n);
             for (int k = 0; k < 8; k++) {
                 for (int v : far) Check.due("promise 11: many(" + k + ", " + v + ") of " + n, x.many(k, v), 0);
             }
@@ -84,7 +72,7 @@ public final class HowManyEdgesTest {
 
     private static void leastAndGreatestV() {
         for (int n = 2; n <= 18; n++) {
-            HundredBoxes x = of(n);
+            HundredBoxes x = Make.of(n);
             long rounds = Counts.factorial(n - 1);
             long unrest = Counts.many(n, 3, 0);
             long[] least = {rounds, rounds, 1, unrest, 1, 1, 1, 1};
@@ -103,7 +91,7 @@ public final class HowManyEdgesTest {
     private static void everyV() {
         for (int n = 1; n <= 18; n++) {
             for (int k = 0; k < 8; k++) {
-                HundredBoxes x = of(n);
+                HundredBoxes x = Make.of(n);
                 for (int v = -1; v <= 230; v++) {
                     Check.due("promise 11: many(" + k + ", " + v + ") of " + n, x.many(k, v), Counts.many(n, k, v));
                 }
@@ -113,15 +101,15 @@ public final class HowManyEdgesTest {
 
     private static void allButOneAtRest() {
         for (int n = 2; n <= 18; n++) {
-            Check.due("promise 11: all but one at rest of " + n, of(n).many(3, n - 1), 0);
-            Check.due("promise 11: all but two at rest of " + n, of(n).many(3, n - 2), n * (n - 1) / 2);
+            Check.due("promise 11: all but one at rest of " + n, Make.of(n).many(3, n - 1), 0);
+            Check.due("promise 11: all but two at rest of " + n, Make.of(n).many(3, n - 2), n * (n - 1) / 2);
         }
     }
 
     private static void manyOfOneThing() {
         int[] only = {1, 1, 0, 1, 1, 0, 1, 1};
         for (int k = 0; k < 8; k++) {
-            HundredBoxes x = of(1);
+            HundredBoxes x = Make.of(1);
             for (int v = -1; v <= 2; v++) {
                 Check.due("promise 11: many(" + k + ", " + v + ") of 1", x.many(k, v), v == only[k] ? 1 : 0);
             }
@@ -129,7 +117,7 @@ public final class HowManyEdgesTest {
     }
 
     private static void manyLooksAtNoOrder() {
-        HundredBoxes x = of(6);
+        HundredBoxes x = Make.of(6);
         x.row(-1, 0, 555);
         x.opens(6);
         x.list(3, 3);
@@ -179,7 +167,7 @@ public final class HowManyEdgesTest {
 
     /** Nothing rises or is out of order in a row of one: 0 by 1. */
     private static void meanOfNought() {
-        HundredBoxes x = of(1);
+        HundredBoxes x = Make.of(1);
         int[] above = {1, 1, 0, 1, 1, 0, 1, 1};
         for (int k = 0; k < 8; k++) {
             Check.due("promise 12: mean(" + k + ", 0) of 1", x.mean(k, 0), above[k]);
@@ -189,16 +177,16 @@ public final class HowManyEdgesTest {
 
     private static void meanThatIsWhole() {
         for (int n = 1; n <= 18; n++) {
-            Check.due("promise 12: mean(3, 0) of " + n, of(n).mean(3, 0), 1);
-            Check.due("promise 12: mean(3, 1) of " + n, of(n).mean(3, 1), 1);
-            Check.due("promise 12: mean(2, 0) of " + n, of(n).mean(2, 0), n % 2 == 1 ? (n - 1) / 2 : n - 1);
-            Check.due("promise 12: mean(2, 1) of " + n, of(n).mean(2, 1), n % 2 == 1 ? 1 : 2);
+            Check.due("promise 12: mean(3, 0) of " + n, Make.of(n).mean(3, 0), 1);
+            Check.due("promise 12: mean(3, 1) of " + n, Make.of(n).mean(3, 1), 1);
+            Check.due("promise 12: mean(2, 0) of " + n, Make.of(n).mean(2, 0), n % 2 == 1 ? (n - 1) / 2 : n - 1);
+            Check.due("promise 12: mean(2, 1) of " + n, Make.of(n).mean(2, 1), n % 2 == 1 ? 1 : 2);
         }
     }
 
     private static void everyMean() {
         for (int n = 1; n <= 18; n++) {
-            HundredBoxes x = of(n);
+            HundredBoxes x = Make.of(n);
             for (int k = 0; k < 8; k++) {
                 long above = Counts.sum(n, k);
                 long below = Counts.factorial(n);
@@ -211,23 +199,23 @@ public final class HowManyEdgesTest {
 
     /** 153 / 2 pairs OUT, so 153 18! / 2 all together: far above an int, and below a long's end. */
     private static void greatestSums() {
-        Check.due("promise 12: mean(5, 0) of 18", of(18).mean(5, 0), 153);
-        Check.due("promise 12: mean(5, 1) of 18", of(18).mean(5, 1), 2);
-        Check.due("promise 12: mean(0, 0) of 18", of(18).mean(0, 0), 14274301);
-        Check.due("promise 12: mean(0, 1) of 18", of(18).mean(0, 1), 4084080);
+        Check.due("promise 12: mean(5, 0) of 18", Make.of(18).mean(5, 0), 153);
+        Check.due("promise 12: mean(5, 1) of 18", Make.of(18).mean(5, 1), 2);
+        Check.due("promise 12: mean(0, 0) of 18", Make.of(18).mean(0, 0), 14274301);
+        Check.due("promise 12: mean(0, 1) of 18", Make.of(18).mean(0, 1), 4084080);
     }
 
     private static void firstKindAndLastKindOfRow() {
         for (int wrong : new int[] {-2, 0, 3, 4, 5, 6, 7, 8, Integer.MIN_VALUE, Integer.MAX_VALUE}) {
-            HundredBoxes x = of(5);
+            HundredBoxes x = Make.of(5);
             x.swap(0, 4);
             Check.due("promise 13: row(" + wrong + ", 1, 0)", x.row(wrong, 1, 0), BAD);
             Check.due("promise 14: place(" + wrong + ")", x.place(wrong), BAD);
             Check.row("promise 13: refused", x, 4, 1, 2, 3, 0);
         }
         for (int kind : ROW_KINDS) {
-            Check.due("promise 13: row(" + kind + ", 1, 0)", of(5).row(kind, 1, 0), 1);
-            Check.due("promise 14: place(" + kind + ")", of(5).place(kind), 0);
+            Check.due("promise 13: row(" + kind + ", 1, 0)", Make.of(5).row(kind, 1, 0), 1);
+            Check.due("promise 14: place(" + kind + ")", Make.of(5).place(kind), 0);
         }
     }
 
@@ -241,7 +229,7 @@ public final class HowManyEdgesTest {
     }
 
     private static void rowsAre(int kind, int v, int[][] rows) {
-        HundredBoxes x = of(3);
+        HundredBoxes x = Make.of(3);
         for (int k = 0; k < rows.length; k++) {
             Check.due("promise 13: row(" + kind + ", " + v + ", " + k + ")", x.row(kind, v, k), 1);
             Check.row("promise 13: row(" + kind + ", " + v + ", " + k + ")", x, rows[k]);
@@ -263,7 +251,7 @@ public final class HowManyEdgesTest {
     /** All at rest; with v RECORDS: 0, 1, .. v - 2, the greatest, and the others; with v RISES: falls last. */
     private static void firstRow() {
         for (int n = 1; n <= 18; n++) {
-            HundredBoxes x = of(n);
+            HundredBoxes x = Make.of(n);
             x.swap(0, n - 1);
             Check.due("promise 13: row(-1, 0, 0)", x.row(-1, 0, 0), 1);
             Check.row("promise 13: row(-1, 0, 0)", x, Orders.atRest(n));
@@ -271,7 +259,7 @@ public final class HowManyEdgesTest {
                 int[] records = Orders.atRest(n);
                 records[v - 1] = n - 1;
                 for (int i = v; i < n; i++) records[i] = i - 1;
-                x = of(n);
+                x = Make.of(n);
                 Check.due("promise 13: row(1, " + v + ", 0) of " + n, x.row(1, v, 0), 1);
                 Check.row("promise 13: row(1, " + v + ", 0)", x, records);
                 Check.due("promise 14: place(1) of it", x.place(1), 0);
@@ -287,17 +275,17 @@ public final class HowManyEdgesTest {
     /** All turned about; with v RECORDS: the v greatest rise, the others fall; with v RISES: falls first. */
     private static void lastRow() {
         for (int n = 1; n <= 18; n++) {
-            HundredBoxes x = of(n);
+            HundredBoxes x = Make.of(n);
             Check.due("promise 13: the last of all", x.row(-1, 0, Counts.factorial(n) - 1), 1);
-            Check.row("promise 13: the last of all", x, turnedAbout(n));
+            Check.row("promise 13: the last of all", x, Make.turnedAbout(n));
             for (int v = 1; v <= n; v++) {
-                int[] records = turnedAbout(n);
+                int[] records = Make.turnedAbout(n);
                 for (int i = 0; i < v; i++) records[i] = n - v + i;
-                x = of(n);
+                x = Make.of(n);
                 Check.due("promise 13: the last with " + v + " RECORDS", x.row(1, v, Counts.many(n, 1, v) - 1), 1);
                 Check.row("promise 13: the last with " + v + " RECORDS", x, records);
                 Check.due("promise 14: place(1) of it", x.place(1), Counts.many(n, 1, v) - 1);
-                int[] rises = turnedAbout(n);
+                int[] rises = Make.turnedAbout(n);
                 for (int i = n - v; i < n; i++) rises[i] = i - (n - v);
                 Check.due("promise 13: the last with " + (v - 1) + " RISES", x.row(2, v - 1, Counts.many(n, 2, v - 1) - 1), 1);
                 Check.row("promise 13: the last with " + (v - 1) + " RISES", x, rises);
@@ -315,7 +303,7 @@ public final class HowManyEdgesTest {
 
     private static void noneBehindTheLastRow() {
         for (int n = 1; n <= 18; n++) {
-            HundredBoxes x = of(n);
+            HundredBoxes x = Make.of(n);
             for (int kind : ROW_KINDS) {
                 for (int v = kind == 1 ? 1 : 0; v < n; v++) {
                     long all = Counts.ofKind(n, kind, v);
@@ -329,7 +317,7 @@ public final class HowManyEdgesTest {
 
     private static void noneWithSoManyRecords() {
         for (int n = 1; n <= 18; n++) {
-            HundredBoxes x = of(n);
+            HundredBoxes x = Make.of(n);
             for (int v : new int[] {Integer.MIN_VALUE, -1, 0, n + 1, 19, 257, Integer.MAX_VALUE}) none(x, 1, v, 0);
             Check.due("promise 13: row(1, " + n + ", 0)", x.row(1, n, 0), 1);
             none(x, 1, n, 1);
@@ -338,7 +326,7 @@ public final class HowManyEdgesTest {
 
     private static void noneWithSoManyRises() {
         for (int n = 1; n <= 18; n++) {
-            HundredBoxes x = of(n);
+            HundredBoxes x = Make.of(n);
             for (int v : new int[] {Integer.MIN_VALUE, -1, n, 19, 257, Integer.MAX_VALUE}) none(x, 2, v, 0);
             for (int v : new int[] {0, n - 1}) {
                 Check.due("promise 13: row(2, " + v + ", 0) of " + n, x.row(2, v, 0), 1);
@@ -349,7 +337,7 @@ public final class HowManyEdgesTest {
 
     private static void rowBelowNought() {
         for (int n : new int[] {1, 4, 18}) {
-            HundredBoxes x = of(n);
+            HundredBoxes x = Make.of(n);
             x.swap(0, n - 1);
             long[] wrong = {-1, -2, Integer.MIN_VALUE, -(1L << 32), 1 - (1L << 32), Long.MIN_VALUE, Long.MIN_VALUE + 1};
             for (int kind : ROW_KINDS) {
@@ -365,17 +353,17 @@ public final class HowManyEdgesTest {
     /** 2^32 and one more: another ROW with 18 THINGS, none with 4. */
     private static void rowsAboveAnInt() {
         long k = (1L << 32) + 1;
-        HundredBoxes x = of(18);
+        HundredBoxes x = Make.of(18);
         for (int kind : ROW_KINDS) {
             Check.due("promise 13: row(" + kind + ", 9, 2^32 + 1)", x.row(kind, 9, k), 1);
             Check.row("promise 13: row(" + kind + ", 9, 2^32 + 1)", x, Counts.row(18, kind, 9, k));
             Check.due("promise 14: place(" + kind + ")", x.place(kind), k);
-            none(of(4), kind, 2, k);
+            none(Make.of(4), kind, 2, k);
         }
     }
 
     private static void rowsOfOneThing() {
-        HundredBoxes x = of(1);
+        HundredBoxes x = Make.of(1);
         Check.due("promise 13: row(-1, 7, 0) of 1", x.row(-1, 7, 0), 1);
         Check.due("promise 13: row(-1, 7, 1) of 1", x.row(-1, 7, 1), NONE);
         Check.due("promise 13: row(1, 1, 0) of 1", x.row(1, 1, 0), 1);
@@ -387,7 +375,7 @@ public final class HowManyEdgesTest {
     }
 
     private static void rowChangesNothingElse() {
-        HundredBoxes x = of(5);
+        HundredBoxes x = Make.of(5);
         x.opens(4);
         x.list(4, 0);
         for (int kind : ROW_KINDS) x.row(kind, 2, 7);
@@ -401,13 +389,13 @@ public final class HowManyEdgesTest {
 
     private static void placeOfTheFirstAndLast() {
         for (int n = 1; n <= 18; n++) {
-            HundredBoxes x = of(n);
+            HundredBoxes x = Make.of(n);
             for (int kind : ROW_KINDS) Check.due("promise 14: place(" + kind + ") at rest of " + n, x.place(kind), 0);
-            x = OrderTest.of(turnedAbout(n));
+            x = OrderTest.of(Make.turnedAbout(n));
             Check.due("promise 14: place(-1) of the last of " + n, x.place(-1), Counts.factorial(n) - 1);
             Check.due("promise 14: place(1) of the last of " + n, x.place(1), Counts.factorial(n - 1) - 1);
             Check.due("promise 14: place(2) of the last of " + n, x.place(2), 0);
-            Check.row("promise 14: THE ORDER stays", x, turnedAbout(n));
+            Check.row("promise 14: THE ORDER stays", x, Make.turnedAbout(n));
         }
     }
 
@@ -467,7 +455,7 @@ public final class HowManyEdgesTest {
         for (int n = 2; n <= 18; n++) {
             int[] oneBack = new int[n];
             for (int i = 0; i < n; i++) oneBack[i] = (i + n - 1) % n;
-            made(turnedAbout(n), oneBack);
+            made(Make.turnedAbout(n), oneBack);
         }
     }
 

@@ -27,20 +27,10 @@ public final class HowManyTest {
         Check.end("HowManyTest");
     }
 
-    private static HundredBoxes of(int n) {
-        HundredBoxes x = new HundredBoxes();
-        x.things(n);
-        return x;
-    }
-
-    private static long factorial(int n) {
-        return n < 2 ? 1 : n * factorial(n - 1);
-    }
-
     private static void manyOfFew() {
         for (int n = 1; n <= Orders.MOST_LISTED; n++) {
             for (int k = 0; k < 8; k++) {
-                HundredBoxes x = of(n);
+                HundredBoxes x = Make.of(n);
                 for (int v = -2; v <= 30; v++) {
                     Check.due("promise 11: many(" + k + ", " + v + ") of " + n, x.many(k, v), Orders.many(n, k, v));
                 }
@@ -52,30 +42,30 @@ public final class HowManyTest {
     private static void manyOfEachSize() {
         for (int n = 1; n <= 18; n++) {
             for (int k = 0; k < 8; k++) {
-                HundredBoxes x = of(n);
+                HundredBoxes x = Make.of(n);
                 long all = 0;
                 long sum = 0;
                 for (int v = 0; v <= 250; v++) {
                     all += x.many(k, v);
                     sum += v * x.many(k, v);
                 }
-                Check.due("promise 11: all of kind " + k + " of " + n, all, factorial(n));
+                Check.due("promise 11: all of kind " + k + " of " + n, all, Counts.factorial(n));
                 long above = x.mean(k, 0);
                 long below = x.mean(k, 1);
-                Check.due("promise 12: mean " + k + " of " + n, above * (factorial(n) / below), sum);
-                Check.due("promise 12: divides " + k + " of " + n, factorial(n) % below, 0);
+                Check.due("promise 12: mean " + k + " of " + n, above * (Counts.factorial(n) / below), sum);
+                Check.due("promise 12: divides " + k + " of " + n, Counts.factorial(n) % below, 0);
             }
         }
     }
 
     /** To and fro between numbers of THINGS: no answer of one may stay for another. */
     private static void manyAtTheEdges() {
-        HundredBoxes x = of(18);
+        HundredBoxes x = Make.of(18);
         for (int round = 0; round < 2; round++) {
             x.things(18);
             long[] greatest = {18, 18, 17, 18, 18, 153, 18, 210};
             // 210 TURNS: ROUNDS of 5, 6, 7, or of 1, 2, 3, 5, 7.
-            long[] ways = {1, 1, 1, 1, factorial(17), 1, 1, 2 * (factorial(18) / 210)};
+            long[] ways = {1, 1, 1, 1, Counts.factorial(17), 1, 1, 2 * (Counts.factorial(18) / 210)};
             for (int k = 0; k < 8; k++) {
                 Check.due("promise 11: greatest of kind " + k, x.many(k, (int) greatest[k]), ways[k]);
                 Check.due("promise 11: above the greatest of kind " + k, x.many(k, (int) greatest[k] + 1), 0);
@@ -83,7 +73,7 @@ public final class HowManyTest {
             long[] atNone = {0, 0, 1, 2355301661033953L, 0, 1, 0, 0};
             for (int k = 0; k < 8; k++) Check.due("promise 11: many(" + k + ", 0)", x.many(k, 0), atNone[k]);
             Check.due("promise 11: many(7, 1)", x.many(7, 1), 1);
-            Check.due("promise 11: many(7, 17)", x.many(7, 17), factorial(18) / 17);
+            Check.due("promise 11: many(7, 17)", x.many(7, 17), Counts.factorial(18) / 17);
             Check.due("promise 11: many(3, 17)", x.many(3, 17), 0);
             Check.due("promise 11: many(6, 17)", x.many(6, 17), 17 * 17);
             x.things(1);
@@ -96,7 +86,7 @@ public final class HowManyTest {
     }
 
     private static void manyRefused() {
-        HundredBoxes x = of(18);
+        HundredBoxes x = Make.of(18);
         for (int v : FAR) {
             for (int k = 0; k < 8; k++) Check.due("promise 11: many(" + k + ", " + v + ")", x.many(k, v), 0);
             Check.due("promise 11: many(8, " + v + ")", x.many(8, v), -2);
@@ -108,24 +98,20 @@ public final class HowManyTest {
 
     private static void meanOfFew() {
         for (int n = 1; n <= Orders.MOST_LISTED; n++) {
-            HundredBoxes x = of(n);
+            HundredBoxes x = Make.of(n);
             for (int k = 0; k < 8; k++) {
-                long common = divisor(Orders.sum(n, k), factorial(n));
+                long common = Counts.divisor(Orders.sum(n, k), Counts.factorial(n));
                 Check.due("promise 12: mean(" + k + ", 0) of " + n, x.mean(k, 0), Orders.sum(n, k) / common);
-                Check.due("promise 12: mean(" + k + ", 1) of " + n, x.mean(k, 1), factorial(n) / common);
+                Check.due("promise 12: mean(" + k + ", 1) of " + n, x.mean(k, 1), Counts.factorial(n) / common);
             }
         }
     }
 
-    private static long divisor(long a, long b) {
-        return b == 0 ? a : divisor(b, a % b);
-    }
-
     private static void meanOfEachSize() {
         for (int n = 1; n <= 18; n++) {
-            HundredBoxes x = of(n);
+            HundredBoxes x = Make.of(n);
             for (int k = 0; k < 8; k++) {
-                Check.due("promise 12: lowest terms of " + k, divisor(x.mean(k, 0), x.mean(k, 1)), 1);
+                Check.due("promise 12: lowest terms of " + k, Counts.divisor(x.mean(k, 0), x.mean(k, 1)), 1);
             }
             fraction(x, 2, n - 1, 2);
             fraction(x, 3, 1, 1);
@@ -136,13 +122,13 @@ public final class HowManyTest {
     }
 
     private static void fraction(HundredBoxes x, int k, long above, long below) {
-        long common = divisor(above, below);
+        long common = Counts.divisor(above, below);
         Check.due("promise 12: mean(" + k + ", 0)", x.mean(k, 0), above / common);
         Check.due("promise 12: mean(" + k + ", 1)", x.mean(k, 1), below / common);
     }
 
     private static void meanRefused() {
-        HundredBoxes x = of(5);
+        HundredBoxes x = Make.of(5);
         for (int wrong : new int[] {-1, 8, Integer.MIN_VALUE, Integer.MAX_VALUE}) {
             Check.due("promise 12: mean(" + wrong + ", 0)", x.mean(wrong, 0), -2);
             Check.due("promise 12: mean(0, " + wrong + ")", x.mean(0, wrong), -2);
@@ -162,7 +148,7 @@ public final class HowManyTest {
         long k = 0;
         for (int[] a : Orders.all(n)) {
             if (Orders.isOfKind(a, kind, v)) {
-                HundredBoxes x = of(n);
+                HundredBoxes x = Make.of(n);
                 Check.due("promise 13: row(" + kind + ", " + v + ", " + k + ")", x.row(kind, v, k), 1);
                 Check.row("promise 13: row(" + kind + ", " + v + ", " + k + ")", x, a);
                 Check.due("promise 14: place(" + kind + ")", x.place(kind), k);
@@ -170,7 +156,7 @@ public final class HowManyTest {
                 k++;
             }
         }
-        HundredBoxes x = of(n);
+        HundredBoxes x = Make.of(n);
         x.swap(0, n - 1);
         x.lay(0);
         Check.due("promise 13: row(" + kind + ", " + v + ", " + k + ") of " + n, x.row(kind, v, k), HundredBoxes.NONE);
@@ -181,8 +167,8 @@ public final class HowManyTest {
         for (int n = 7; n <= 18; n++) {
             for (int kind : ROW_KINDS) {
                 for (int v = kind == 1 ? 1 : 0; v < (kind == -1 ? 1 : n); v++) {
-                    HundredBoxes x = of(n);
-                    long all = kind == -1 ? factorial(n) : x.many(kind, v);
+                    HundredBoxes x = Make.of(n);
+                    long all = kind == -1 ? Counts.factorial(n) : x.many(kind, v);
                     for (int round = 0; round < 20; round++) {
                         rowAndBack(x, kind, v, Math.floorMod(RANDOM.nextLong(), all));
                     }
@@ -213,11 +199,11 @@ public final class HowManyTest {
     }
 
     private static void rowsAtTheEdges() {
-        HundredBoxes x = of(18);
-        Check.due("promise 13: the last of all", x.row(-1, Integer.MIN_VALUE, factorial(18) - 1), 1);
+        HundredBoxes x = Make.of(18);
+        Check.due("promise 13: the last of all", x.row(-1, Integer.MIN_VALUE, Counts.factorial(18) - 1), 1);
         Check.row("promise 13: the last of all", x, 17, 16, 15, 14, 13, 12, 11, 10, 9, 8, 7, 6, 5, 4, 3, 2, 1, 0);
         Check.due("promise 14: the last with no rise", x.place(2), 0);
-        Check.due("promise 14: the last with one record", x.place(1), factorial(17) - 1);
+        Check.due("promise 14: the last with one record", x.place(1), Counts.factorial(17) - 1);
         Check.due("promise 13: the first of all", x.row(-1, Integer.MAX_VALUE, 0), 1);
         Check.row("promise 13: the first of all", x, Orders.atRest(18));
         x.row(1, 1, 0);
@@ -225,7 +211,7 @@ public final class HowManyTest {
     }
 
     private static void rowRefused() {
-        HundredBoxes x = of(18);
+        HundredBoxes x = Make.of(18);
         x.swap(0, 17);
         for (int kind : new int[] {-2, 0, 3, 7, Integer.MIN_VALUE, Integer.MAX_VALUE}) {
             Check.due("promise 13: row(" + kind + ", 1, 0)", x.row(kind, 1, 0), HundredBoxes.BAD);
@@ -243,7 +229,7 @@ public final class HowManyTest {
     }
 
     private static void placeRefused() {
-        HundredBoxes x = of(6);
+        HundredBoxes x = Make.of(6);
         for (int kind : new int[] {-2, 0, 3, 7, Integer.MIN_VALUE, Integer.MAX_VALUE}) {
             Check.due("promise 14: place(" + kind + ")", x.place(kind), -2);
         }

@@ -53,30 +53,6 @@ public final class OrderEdgesTest {
         Check.end("OrderEdgesTest");
     }
 
-    private static HundredBoxes of(int n) {
-        HundredBoxes x = new HundredBoxes();
-        x.things(n);
-        return x;
-    }
-
-    private static int[] turnedAbout(int n) {
-        int[] a = new int[n];
-        for (int i = 0; i < n; i++) a[i] = n - 1 - i;
-        return a;
-    }
-
-    /** One ROUND: each to the next, the last to the first. */
-    private static int[] oneOn(int n) {
-        int[] a = new int[n];
-        for (int i = 0; i < n; i++) a[i] = (i + 1) % n;
-        return a;
-    }
-
-    private static int tell(HundredBoxes x, int... a) {
-        long[] told = Orders.figures(a);
-        return x.order(told[0], told[1]);
-    }
-
     private static void newObjectHasFourThings() {
         HundredBoxes x = new HundredBoxes();
         Check.due("promise 1: count(0)", x.count(0), 4);
@@ -103,7 +79,7 @@ public final class OrderEdgesTest {
     private static void newObjectHasFourPlacesAtRest() {
         for (int place = 0; place < 4; place++) {
             HundredBoxes x = new HundredBoxes();
-            tell(x, 3, 2, 1, 0);
+            Make.tell(x, 3, 2, 1, 0);
             Check.due("promise 1: take(" + place + ")", x.take(place), 1);
             Check.row("promise 1: take(" + place + ")", x, 0, 1, 2, 3);
         }
@@ -124,8 +100,8 @@ public final class OrderEdgesTest {
     private static void thingsPutTheOrderAtRest() {
         for (int before = 1; before <= 18; before++) {
             for (int n = 1; n <= 18; n++) {
-                HundredBoxes x = of(before);
-                tell(x, turnedAbout(before));
+                HundredBoxes x = Make.of(before);
+                Make.tell(x, Make.turnedAbout(before));
                 x.things(n);
                 Check.row("promise 2: things(" + n + ") after " + before, x, Orders.atRest(n));
             }
@@ -135,12 +111,12 @@ public final class OrderEdgesTest {
     private static void thingsPutEachPlaceAtRest() {
         for (int before : new int[] {2, 5, 9, 18}) {
             for (int n : new int[] {1, 2, 5, 9, 18}) {
-                HundredBoxes x = of(before);
-                tell(x, turnedAbout(before));
+                HundredBoxes x = Make.of(before);
+                Make.tell(x, Make.turnedAbout(before));
                 for (int place = 0; place < 4; place++) x.lay(place);
                 x.things(n);
                 for (int place = 0; place < 4; place++) {
-                    tell(x, turnedAbout(n));
+                    Make.tell(x, Make.turnedAbout(n));
                     x.take(place);
                     Check.row("promise 2: place " + place + " of " + n + " after " + before, x, Orders.atRest(n));
                 }
@@ -149,7 +125,7 @@ public final class OrderEdgesTest {
     }
 
     private static void thingsSetHowManyAreOpened() {
-        HundredBoxes x = of(18);
+        HundredBoxes x = Make.of(18);
         x.opens(18);
         for (int n = 18; n >= 1; n--) {
             x.things(n);
@@ -167,7 +143,7 @@ public final class OrderEdgesTest {
 
     private static void thingsEmptyTheLists() {
         for (int n : new int[] {1, 4, 7, 18}) {
-            HundredBoxes x = of(7);
+            HundredBoxes x = Make.of(7);
             for (int player = 0; player < 7; player++) x.list(player, 6 - player);
             x.things(n);
             Check.due("promise 2: BOXES in all lists of " + n, x.count(2), 0);
@@ -185,7 +161,7 @@ public final class OrderEdgesTest {
     }
 
     private static void orderOfOneThing() {
-        HundredBoxes x = of(1);
+        HundredBoxes x = Make.of(1);
         Check.due("promise 3: order(0, 0) of 1", x.order(0, 0), 1);
         Check.row("promise 3: order(0, 0) of 1", x, 0);
         Check.due("promise 3: order(1, 0) of 1", x.order(1, 0), BAD);
@@ -194,17 +170,17 @@ public final class OrderEdgesTest {
     }
 
     private static void ninthFigureIsTheLastOfTold() {
-        HundredBoxes x = of(9);
+        HundredBoxes x = Make.of(9);
         int[] a = {8, 7, 6, 5, 4, 3, 2, 0, 1};
         long told = Orders.figures(a)[0];
         Check.due("promise 3: 9 figures of told", x.order(told, 0), 1);
         Check.row("promise 3: 9 figures of told", x, a);
         Check.due("promise 3: a figure of more with 9", x.order(told, 1), BAD);
-        Check.due("promise 3: none of more with 10", of(10).order(told, 0), BAD);
+        Check.due("promise 3: none of more with 10", Make.of(10).order(told, 0), BAD);
     }
 
     private static void tenthThingIsTheFirstOfMore() {
-        HundredBoxes x = of(10);
+        HundredBoxes x = Make.of(10);
         int[] a = {9, 8, 7, 6, 5, 4, 3, 2, 1, 0};
         long told = Orders.figures(a)[0];
         Check.due("promise 3: the tenth is 0", x.order(told, 0), 1);
@@ -220,11 +196,11 @@ public final class OrderEdgesTest {
 
     /** 17 as the highest figure of told, and of more. */
     private static void greatestFigures() {
-        HundredBoxes x = of(18);
+        HundredBoxes x = Make.of(18);
         int[] a = {9, 10, 11, 12, 13, 14, 15, 16, 17, 0, 1, 2, 3, 4, 5, 6, 7, 8};
-        Check.due("promise 3: the greatest told", tell(x, a), 1);
+        Check.due("promise 3: the greatest told", Make.tell(x, a), 1);
         Check.row("promise 3: the greatest told", x, a);
-        Check.due("promise 3: the greatest more", tell(x, Orders.atRest(18)), 1);
+        Check.due("promise 3: the greatest more", Make.tell(x, Orders.atRest(18)), 1);
         Check.row("promise 3: the greatest more", x, Orders.atRest(18));
         Check.due("promise 3: nothing but 17", x.order(198359290367L, 198359290367L), BAD);
     }
@@ -232,12 +208,12 @@ public final class OrderEdgesTest {
     private static void figureThatIsNoThing() {
         for (int n = 1; n < 18; n++) {
             for (int i = 0; i < n; i++) {
-                HundredBoxes x = of(n);
+                HundredBoxes x = Make.of(n);
                 int[] a = Orders.atRest(n);
                 a[i] = n;
-                Check.due("promise 3: a(" + i + ") = " + n, tell(x, a), BAD);
+                Check.due("promise 3: a(" + i + ") = " + n, Make.tell(x, a), BAD);
                 a[i] = 17;
-                Check.due("promise 3: a(" + i + ") = 17 of " + n, tell(x, a), BAD);
+                Check.due("promise 3: a(" + i + ") = 17 of " + n, Make.tell(x, a), BAD);
             }
         }
     }
@@ -245,20 +221,20 @@ public final class OrderEdgesTest {
     private static void figureTwice() {
         for (int n = 2; n <= 18; n++) {
             for (int i = 0; i < n; i++) {
-                HundredBoxes x = of(n);
-                tell(x, turnedAbout(n));
+                HundredBoxes x = Make.of(n);
+                Make.tell(x, Make.turnedAbout(n));
                 int[] a = Orders.atRest(n);
                 a[i] = (i + 1) % n;
-                Check.due("promise 3: " + a[i] + " twice of " + n, tell(x, a), BAD);
-                Check.row("promise 3: " + a[i] + " twice of " + n, x, turnedAbout(n));
+                Check.due("promise 3: " + a[i] + " twice of " + n, Make.tell(x, a), BAD);
+                Check.row("promise 3: " + a[i] + " twice of " + n, x, Make.turnedAbout(n));
             }
         }
     }
 
     private static void figuresAboveTold() {
         for (int n = 1; n <= 18; n++) {
-            HundredBoxes x = of(n);
-            long[] right = Orders.figures(turnedAbout(n));
+            HundredBoxes x = Make.of(n);
+            long[] right = Orders.figures(Make.turnedAbout(n));
             long above = 1;
             for (int i = 0; i < Math.min(n, 9); i++) above *= 18;
             for (long wrong = above; wrong > 0 && wrong < Long.MAX_VALUE / 20; wrong *= 18) {
@@ -271,8 +247,8 @@ public final class OrderEdgesTest {
 
     private static void figuresAboveMore() {
         for (int n = 1; n <= 18; n++) {
-            HundredBoxes x = of(n);
-            long[] right = Orders.figures(turnedAbout(n));
+            HundredBoxes x = Make.of(n);
+            long[] right = Orders.figures(Make.turnedAbout(n));
             long above = 1;
             for (int i = 9; i < n; i++) above *= 18;
             for (long wrong = above; wrong > 0 && wrong < Long.MAX_VALUE / 20; wrong *= 18) {
@@ -285,21 +261,21 @@ public final class OrderEdgesTest {
 
     /** -18^9 has nothing but 0 as the figures that are looked at. */
     private static void figuresBelowNought() {
-        HundredBoxes x = of(1);
+        HundredBoxes x = Make.of(1);
         for (long wrong : new long[] {-1, -18, -324, -198359290368L, Long.MIN_VALUE}) {
             Check.due("promise 3: order(" + wrong + ", 0)", x.order(wrong, 0), BAD);
             Check.due("promise 3: order(0, " + wrong + ")", x.order(0, wrong), BAD);
         }
         long[] right = Orders.figures(Orders.atRest(18));
-        Check.due("promise 3: -told", of(18).order(-right[0], right[1]), BAD);
-        Check.due("promise 3: -more", of(18).order(right[0], -right[1]), BAD);
+        Check.due("promise 3: -told", Make.of(18).order(-right[0], right[1]), BAD);
+        Check.due("promise 3: -more", Make.of(18).order(right[0], -right[1]), BAD);
     }
 
     private static void orderChangesNothingElse() {
         HundredBoxes x = new HundredBoxes();
         x.opens(3);
         x.list(1, 2);
-        tell(x, 3, 1, 0, 2);
+        Make.tell(x, 3, 1, 0, 2);
         Check.due("promise 3: m stays", x.count(1), 3);
         Check.due("promise 3: the lists stay", x.count(2), 1);
         for (int place = 0; place < 4; place++) {
@@ -310,8 +286,8 @@ public final class OrderEdgesTest {
 
     private static void firstAndLastPlaceOfTheRow() {
         for (int n = 1; n <= 18; n++) {
-            HundredBoxes x = of(n);
-            tell(x, turnedAbout(n));
+            HundredBoxes x = Make.of(n);
+            Make.tell(x, Make.turnedAbout(n));
             Check.due("promise 4: at(0) of " + n, x.at(0), n - 1);
             Check.due("promise 4: at(" + (n - 1) + ")", x.at(n - 1), 0);
             Check.due("promise 4: at(-1) of " + n, x.at(-1), BAD);
@@ -320,14 +296,14 @@ public final class OrderEdgesTest {
     }
 
     private static void noThingOfABiggerRow() {
-        HundredBoxes x = of(18);
+        HundredBoxes x = Make.of(18);
         x.things(3);
         for (int i = 3; i < 18; i++) Check.due("promise 4: at(" + i + ") of 3, first 18", x.at(i), BAD);
     }
 
     private static void swapOfTheEnds() {
         for (int n = 2; n <= 18; n++) {
-            HundredBoxes x = of(n);
+            HundredBoxes x = Make.of(n);
             int[] a = Orders.atRest(n);
             a[0] = n - 1;
             a[n - 1] = 0;
@@ -345,22 +321,22 @@ public final class OrderEdgesTest {
 
     /** Places are changed, not THINGS: swap(1, 2) of 2 0 1 is not that with 1 and 2 changed. */
     private static void swapOfOneWithItself() {
-        HundredBoxes x = of(3);
-        tell(x, 2, 0, 1);
+        HundredBoxes x = Make.of(3);
+        Make.tell(x, 2, 0, 1);
         for (int i = 0; i < 3; i++) {
             Check.due("promise 5: swap(" + i + ", " + i + ")", x.swap(i, i), 1);
             Check.row("promise 5: swap(" + i + ", " + i + ")", x, 2, 0, 1);
         }
         x.swap(1, 2);
         Check.row("promise 5: swap(1, 2)", x, 2, 1, 0);
-        Check.due("promise 5: swap(0, 0) of 1", of(1).swap(0, 0), 1);
+        Check.due("promise 5: swap(0, 0) of 1", Make.of(1).swap(0, 0), 1);
     }
 
     private static void firstAndLastPlaceOfTheShelf() {
         HundredBoxes x = new HundredBoxes();
-        tell(x, 1, 0, 2, 3);
+        Make.tell(x, 1, 0, 2, 3);
         Check.due("promise 6: lay(0)", x.lay(0), 1);
-        tell(x, 0, 1, 3, 2);
+        Make.tell(x, 0, 1, 3, 2);
         Check.due("promise 6: lay(3)", x.lay(3), 1);
         Check.due("promise 6: lay(-1)", x.lay(-1), BAD);
         Check.due("promise 6: lay(4)", x.lay(4), BAD);
@@ -381,7 +357,7 @@ public final class OrderEdgesTest {
 
     private static void layIsACopy() {
         HundredBoxes x = new HundredBoxes();
-        tell(x, 3, 0, 1, 2);
+        Make.tell(x, 3, 0, 1, 2);
         x.lay(1);
         Check.row("promise 6: THE ORDER stays", x, 3, 0, 1, 2);
         x.swap(0, 1);
@@ -397,7 +373,7 @@ public final class OrderEdgesTest {
 
     private static void takeIsACopy() {
         HundredBoxes x = new HundredBoxes();
-        tell(x, 3, 0, 1, 2);
+        Make.tell(x, 3, 0, 1, 2);
         x.lay(2);
         x.take(2);
         x.swap(0, 3);
@@ -409,8 +385,8 @@ public final class OrderEdgesTest {
     private static void takeOfAPlaceNeverLaidOn() {
         for (int n = 1; n <= 18; n++) {
             for (int place = 0; place < 4; place++) {
-                HundredBoxes x = of(n);
-                tell(x, oneOn(n));
+                HundredBoxes x = Make.of(n);
+                Make.tell(x, Make.oneOn(n));
                 Check.due("promise 7: take(" + place + ")", x.take(place), 1);
                 Check.row("promise 7: take(" + place + ")", x, Orders.atRest(n));
             }
@@ -419,10 +395,10 @@ public final class OrderEdgesTest {
 
     private static void thenGoesByAFirst() {
         for (int place = 0; place < 4; place++) {
-            HundredBoxes x = of(3);
-            tell(x, 1, 0, 2);
+            HundredBoxes x = Make.of(3);
+            Make.tell(x, 1, 0, 2);
             x.lay(place);
-            tell(x, 1, 2, 0);
+            Make.tell(x, 1, 2, 0);
             Check.due("promise 8: then(" + place + ")", x.then(place), 1);
             Check.row("promise 8: i goes to b(a(i))", x, 0, 2, 1);
             x.take(place);
@@ -432,8 +408,8 @@ public final class OrderEdgesTest {
 
     private static void thenByItself() {
         for (int n = 1; n <= 18; n++) {
-            HundredBoxes x = of(n);
-            tell(x, oneOn(n));
+            HundredBoxes x = Make.of(n);
+            Make.tell(x, Make.oneOn(n));
             x.lay(3);
             for (int i = 1; i < n; i++) {
                 Check.due("promise 8: at(0) after " + i + " of " + n, x.at(0), i % n);
@@ -444,34 +420,34 @@ public final class OrderEdgesTest {
     }
 
     private static void thenByAPlaceAtRest() {
-        HundredBoxes x = of(18);
-        tell(x, turnedAbout(18));
+        HundredBoxes x = Make.of(18);
+        Make.tell(x, Make.turnedAbout(18));
         for (int place = 0; place < 4; place++) {
             Check.due("promise 8: then(" + place + ") at rest", x.then(place), 1);
-            Check.row("promise 8: then(" + place + ") at rest", x, turnedAbout(18));
+            Check.row("promise 8: then(" + place + ") at rest", x, Make.turnedAbout(18));
         }
     }
 
     private static void backOfRestAndOfPairs() {
         for (int n = 1; n <= 18; n++) {
-            HundredBoxes x = of(n);
+            HundredBoxes x = Make.of(n);
             Check.due("promise 9: back() at rest", x.back(), 1);
             Check.row("promise 9: back() at rest", x, Orders.atRest(n));
-            tell(x, turnedAbout(n));
+            Make.tell(x, Make.turnedAbout(n));
             Check.due("promise 9: back() turned about", x.back(), 1);
-            Check.row("promise 9: back() turned about", x, turnedAbout(n));
+            Check.row("promise 9: back() turned about", x, Make.turnedAbout(n));
         }
     }
 
     private static void backOfOneRound() {
         for (int n = 1; n <= 18; n++) {
-            HundredBoxes x = of(n);
-            tell(x, oneOn(n));
+            HundredBoxes x = Make.of(n);
+            Make.tell(x, Make.oneOn(n));
             x.back();
             Check.due("promise 9: at(0) of " + n, x.at(0), n - 1);
             for (int i = 1; i < n; i++) Check.due("promise 9: at(" + i + ") of " + n, x.at(i), i - 1);
             x.back();
-            Check.row("promise 9: twice", x, oneOn(n));
+            Check.row("promise 9: twice", x, Make.oneOn(n));
         }
     }
 
@@ -482,78 +458,78 @@ public final class OrderEdgesTest {
     }
 
     private static void numbersOfOneThing() {
-        numbers("one THING", of(1), 1, 1, 0, 1, 1, 0, 1, 1);
+        numbers("one THING", Make.of(1), 1, 1, 0, 1, 1, 0, 1, 1);
     }
 
     private static void numbersAtRest() {
-        for (int n = 1; n <= 18; n++) numbers("at rest, " + n, of(n), n, n, n - 1, n, 1, 0, n, 1);
+        for (int n = 1; n <= 18; n++) numbers("at rest, " + n, Make.of(n), n, n, n - 1, n, 1, 0, n, 1);
     }
 
     private static void numbersOfTheRowTurnedAbout() {
         for (int n = 2; n <= 18; n++) {
-            HundredBoxes x = of(n);
-            tell(x, turnedAbout(n));
+            HundredBoxes x = Make.of(n);
+            Make.tell(x, Make.turnedAbout(n));
             numbers("turned about, " + n, x, (n + 1) / 2, 1, 0, n % 2, 2, n * (n - 1) / 2, 1, 2);
         }
     }
 
     private static void numbersOfOneRound() {
         for (int n = 2; n <= 18; n++) {
-            HundredBoxes x = of(n);
-            tell(x, oneOn(n));
+            HundredBoxes x = Make.of(n);
+            Make.tell(x, Make.oneOn(n));
             numbers("one ROUND, " + n, x, 1, n - 1, n - 2, 0, n, n - 1, n - 1, n);
         }
     }
 
     private static void roundsOfOneCount() {
-        HundredBoxes x = of(6);
-        tell(x, 0, 2, 1, 3, 4, 5);
+        HundredBoxes x = Make.of(6);
+        Make.tell(x, 0, 2, 1, 3, 4, 5);
         Check.due("promise 10: ROUNDS, four of one THING", x.number(0), 5);
         Check.due("promise 10: STILL", x.number(3), 4);
         Check.due("promise 10: the longest ROUND", x.number(4), 2);
     }
 
     private static void theFirstIsARecord() {
-        HundredBoxes x = of(5);
-        tell(x, 0, 4, 1, 2, 3);
+        HundredBoxes x = Make.of(5);
+        Make.tell(x, 0, 4, 1, 2, 3);
         Check.due("promise 10: RECORDS, the first is 0", x.number(1), 2);
-        tell(x, 4, 0, 1, 2, 3);
+        Make.tell(x, 4, 0, 1, 2, 3);
         Check.due("promise 10: RECORDS, the first is 4", x.number(1), 1);
-        tell(x, 3, 0, 1, 2, 4);
+        Make.tell(x, 3, 0, 1, 2, 4);
         Check.due("promise 10: RECORDS, the first and the last", x.number(1), 2);
     }
 
     private static void theLastIsNoRise() {
-        HundredBoxes x = of(2);
+        HundredBoxes x = Make.of(2);
         Check.due("promise 10: RISES of 0 1", x.number(2), 1);
         x.swap(0, 1);
         Check.due("promise 10: RISES of 1 0", x.number(2), 0);
-        HundredBoxes y = of(5);
-        tell(y, 3, 4, 1, 2, 0);
+        HundredBoxes y = Make.of(5);
+        Make.tell(y, 3, 4, 1, 2, 0);
         Check.due("promise 10: RISES at the first place and inside", y.number(2), 2);
         Check.due("promise 10: THE LONGEST RISE need not be next to one another", y.number(6), 2);
-        tell(y, 2, 0, 3, 1, 4);
+        Make.tell(y, 2, 0, 3, 1, 4);
         Check.due("promise 10: THE LONGEST RISE picked out of the row", y.number(6), 3);
     }
 
     private static void turnsAreOneOrMore() {
-        for (int n = 1; n <= 18; n++) Check.due("promise 10: TURNS at rest of " + n, of(n).number(7), 1);
+        for (int n = 1; n <= 18; n++) Check.due("promise 10: TURNS at rest of " + n, Make.of(n).number(7), 1);
     }
 
     private static void mostTurns() {
-        HundredBoxes x = of(18);
-        tell(x, 1, 2, 3, 4, 0, 6, 7, 8, 9, 10, 5, 12, 13, 14, 15, 16, 17, 11);
+        HundredBoxes x = Make.of(18);
+        Make.tell(x, 1, 2, 3, 4, 0, 6, 7, 8, 9, 10, 5, 12, 13, 14, 15, 16, 17, 11);
         Check.due("promise 10: TURNS of ROUNDS of 5, 6, 7", x.number(7), 210);
-        tell(x, 0, 2, 1, 4, 5, 3, 7, 8, 9, 10, 6, 12, 13, 14, 15, 16, 17, 11);
+        Make.tell(x, 0, 2, 1, 4, 5, 3, 7, 8, 9, 10, 6, 12, 13, 14, 15, 16, 17, 11);
         Check.due("promise 10: TURNS of ROUNDS of 1, 2, 3, 5, 7", x.number(7), 210);
-        tell(x, 1, 2, 3, 4, 5, 0, 7, 8, 9, 10, 11, 6, 13, 14, 15, 12, 17, 16);
+        Make.tell(x, 1, 2, 3, 4, 5, 0, 7, 8, 9, 10, 11, 6, 13, 14, 15, 12, 17, 16);
         Check.due("promise 10: TURNS of ROUNDS of 6, 6, 4, 2", x.number(7), 12);
     }
 
     private static void twoObjectsShareNothing() {
-        HundredBoxes x = of(5);
+        HundredBoxes x = Make.of(5);
         HundredBoxes y = new HundredBoxes();
-        tell(x, 4, 3, 2, 1, 0);
+        Make.tell(x, 4, 3, 2, 1, 0);
         for (int place = 0; place < 4; place++) x.lay(place);
         x.opens(5);
         x.list(0, 0);
