@@ -141,15 +141,19 @@ public final class OrderEdgesTest {
         Check.due("promise 2: m of as many as before", x.count(1), 2);
     }
 
+    /** From and to every number of THINGS, so that the first and the last PLAYER of each are among them. */
     private static void thingsEmptyTheLists() {
-        for (int n : new int[] {1, 4, 7, 18}) {
-            HundredBoxes x = Make.of(7);
-            for (int player = 0; player < 7; player++) x.list(player, 6 - player);
-            x.things(n);
-            Check.due("promise 2: BOXES in all lists of " + n, x.count(2), 0);
-            x.things(7);
-            for (int player = 0; player < 7; player++) {
-                Check.due("promise 2: list(" + player + ") after " + n, x.list(player, 6 - player), 1);
+        for (int from = 1; from <= 18; from++) {
+            for (int to = 1; to <= 18; to++) {
+                String where = "promise 2: from " + from + " to " + to;
+                HundredBoxes x = Make.of(from);
+                for (int player = 0; player < from; player++) x.list(player, from - 1 - player);
+                x.things(to);
+                Check.due(where + ", BOXES in all lists", x.count(2), 0);
+                x.things(from);
+                for (int player = 0; player < from; player++) {
+                    Check.due(where + ", list of " + player, x.list(player, from - 1 - player), 1);
+                }
             }
         }
     }
